@@ -192,7 +192,8 @@ public final class BrailleCells {
             return STATE;
         }
         // A bar rest fills its voice, so that nothing fits behind one, and one fits only an empty voice.
-        if (music.voiceLasts(slot) + music.lengthOf(kind, size, dots) > music.length) {
+        int lasting = size == BAR_REST ? music.length : lengthOf(kind, size, dots);
+        if (music.voiceLasts(slot) + lasting > music.length) {
             return STATE;
         }
         if (music.itemsOf[slot] >= VOICE_ITEM_LIMIT || music.items >= ITEM_LIMIT) {
@@ -355,8 +356,11 @@ public final class BrailleCells {
         return dots >= 0 && dots <= DOT_LIMIT;
     }
 
-    private static int smallLength(int kind, int dots) {
-        return KIND_LENGTHS[kind] * DOT_TIMES[dots];
+    private static int lengthOf(int kind, int size, int dots) {
+        if (!isKind(kind) || !isDots(dots)) {
+            return 0;
+        }
+        return KIND_LENGTHS[kind] * DOT_TIMES[dots] * (size == LARGE ? LARGE_TIMES : 1);
     }
 
     private static int indexIn(int[] table, int value) {
@@ -444,7 +448,8 @@ public final class BrailleCells {
 
         /** NONE without bars, and if the last one is repeated. */
         int lastSlot() {
-            return bars == 0 ? NONE : slotOf(bars - 1, voicesOf[bars - 1] - 1);
+            int last = bars - 1;
+            return last < 0 || voicesOf[last] == 0 ? NONE : last * VOICE_LIMIT + voicesOf[last] - 1;
         }
 
         int addItem(int newPitch, int newSign, int newKind, int newSize, int newDots) {
@@ -500,15 +505,8 @@ public final class BrailleCells {
             return pitch[item] != NO_PITCH;
         }
 
-        int lengthOf(int itsKind, int itsSize, int itsDots) {
-            if (itsSize == BAR_REST) {
-                return length;
-            }
-            return smallLength(itsKind, itsDots) * (itsSize == LARGE ? LARGE_TIMES : 1);
-        }
-
         int lasts(int item) {
-            return lengthOf(kind[item], size[item], dots[item]);
+            return size[item] == BAR_REST ? length : lengthOf(kind[item], size[item], dots[item]);
         }
 
         int voiceLasts(int slot) {
@@ -567,7 +565,7 @@ public final class BrailleCells {
             fresh = false;
         }
 
-        /** For a bar that is about to come behind the one before it. */
+        /** Only behind a bar of one voice the octave is still known. */
         void enterBar(Music music, int bar) {
             boolean behindOneVoice = bar > 0 && bar <= music.bars && music.voicesOf[bar - 1] == 1;
             if (!behindOneVoice) {
@@ -630,7 +628,7 @@ public final class BrailleCells {
             count = Math.min(items, VOICE_ITEM_LIMIT);
             int extra = length;
             for (int i = 0; i < count; i++) {
-                small[i] = smallLength(music.kind[first + i], music.dots[first + i]);
+                small[i] = lengthOf(music.kind[first + i], SMALL, music.dots[first + i]);
                 extra -= small[i];
             }
             boolean fits = extra >= 0 && extra % EXTRA == 0 && extra / EXTRA < SUMS;
@@ -737,7 +735,6 @@ public final class BrailleCells {
             music = target;
             place = 0;
             slurIsOpen = false;
-            watch.forget();
             readHand();
             boolean good = beginBar() && readVoice();
             for (int i = 0; i < ROW_LIMIT && good && place < row.count; i++) {
@@ -895,8 +892,8 @@ public final class BrailleCells {
             }
             watch.heard(pitch);
             place++;
-            music.addItem(pitch, sign, indexIn(KIND_CELLS, c & KIND_DOTS), toldSize, readDots());
-            return true;
+            int kind = indexIn(KIND_CELLS, c & KIND_DOTS);
+            return music.addItem(pitch, sign, kind, toldSize, readDots()) != NONE;
         }
 
         private int readDots() {
@@ -972,7 +969,6 @@ public final class BrailleCells {
             music = source;
             row = target;
             row.count = 0;
-            watch.forget();
             markSlurs();
             markSigns();
             putHand();

@@ -178,6 +178,44 @@ public final class PromiseTests {
             + " " + x.item(0, 11), "0 0 0 0 0");
     }
 
+    /** What was there before must not show behind what is there now. */
+    private static void clearLeavesNothing() {
+        BrailleCells x = new BrailleCells();
+        x.bar(false);
+        for (int i = 0; i < 4; i++) {
+            x.note(50, 0, 2, 0, 0);
+            x.interval(8, 0);
+            x.tie(true);
+        }
+        x.voice();
+        x.rest(0, 2, 0);
+        x.bar(false);
+        x.rest(0, 2, 0);
+        x.clear();
+        x.bar(false);
+        due("ways of an empty voice", x.ways(0, 0), 0);
+        due("no second voice", x.ways(0, 1), NONE);
+        due("no second bar", x.ways(1, 0), NONE);
+        due("no second bar", x.signed(1, 0), NONE);
+        due("no items", x.barOf(0, 2), 0);
+        due("no intervals", x.hand(2), 0);
+        due("no ties", x.loose(), 0);
+        x.note(50, 0, 2, 0, 0);
+        due("no ties", x.loose(), 0);
+        x.tie(true);
+        due("no next item", x.loose(), 1);
+        due("no intervals", x.hand(0), 2);
+        x.note(50, 0, 1, 0, 1);
+        due("items", x.barOf(0, 2), 2);
+        dueWritten(x, 12, "6 156 4 14 135 3");
+        x.clear();
+        x.bar(false);
+        x.rest(0, 2, 0);
+        x.clear();
+        x.bar(false);
+        due("ways of an empty voice", x.ways(0, 0), 0);
+    }
+
     private static void cell() {
         BrailleCells x = new BrailleCells();
         due("cell(0)", x.cell(0), 1);
@@ -584,6 +622,8 @@ public final class PromiseTests {
         due("the 61st", x.read(), -10 - 120);
         fill(x, "134" + times(59, " / 134") + " /");
         due("the 61st at the end", x.read(), -10 - 120);
+        fill(x, "134" + times(60, " / 134"));
+        due("the 61st with a voice", x.read(), -10 - 120);
     }
 
     private static void readManyItems() {
@@ -614,6 +654,13 @@ public final class PromiseTests {
         fill(x, row.toString());
         x.cut(end - 1);
         due("a cell cut off", x.read(), -10 - end + 1);
+        x = inMeter(15, 8);
+        String thirty = times(30, "134");
+        fill(x, times(19, thirty + "_ ") + thirty);
+        due("600 by thirties", x.read(), 20);
+        fill(x, times(19, thirty + "_ ") + thirty + "134");
+        due("the 601st", x.read(), -10 - 619);
+        x = inMeter(10, 4);
         fill(x, "6 126 2 " + times(40, "134") + "_ " + times(10, "1236") + "126 345 134");
         due("several voices", x.read(), 2);
         due("several voices", x.barOf(1, 2), 11);
@@ -1122,40 +1169,36 @@ public final class PromiseTests {
     }
 
     private static void writeFull() {
-        // 600 notes take 3480 cells with their intervals; blanks, slurs and lines add to that.
+        // 60 bars of ten notes with intervals, 60 cells each and an octave sign each line, one bar in a line.
         BrailleCells x = inMeter(10, 16);
-        StringBuilder row = new StringBuilder("5 ");
-        for (int b = 0; b < 60; b++) {
-            row.append(b == 0 ? "" : "_ ");
-            for (int i = 0; i < 10; i++) {
-                row.append("13456 36 36 36 ").append(i < 9 ? "146 36 " : "");
-            }
-        }
-        for (int c : cells(row.toString())) {
-            x.cell(c);
-        }
-        due("the row's length", x.told(3), 1 + 59 + 600 * 4 + 540 * 2);
+        String bar = times(10, "13456 36 36 36 146 36");
+        fill(x, "5 " + times(59, bar + "_ ") + bar);
         due("read", x.read(), 60);
-        for (int i = 0; i < 600; i += 2) {
-            x.slur(i, true);
+        due("without slurs", x.write(100), 60 * 61 + 59);
+        for (int i = 0; i < 281; i++) {
+            x.slur(2 * i, true);
         }
-        int written = x.write(200);
-        due("with slurs, and an octave sign each line", written, 59 + 3480 + 300 + 1 + linesBehindTheFirst(x));
-        for (int i = 1; i < 600; i += 2) {
-            x.slur(i, true);
-        }
-        String before = rowOf(x);
-        due("more than 4000", x.write(200), FULL);
-        dueText("the row stays", rowOf(x), before);
-        due("a bar too long goes before full", x.write(12), -10);
+        due("just 4000", x.write(100), 4000);
+        due("just 4000", x.told(3), 4000);
+        fill(x, "1 2 3");
+        x.slur(2 * 281, true);
+        due("one more", x.write(100), FULL);
+        dueText("the row stays", rowOf(x), "1 2 3");
+        x.voice();
+        due("not whole goes before full", x.write(100), STATE);
+        due("a wrong width goes before full", x.write(11), RANGE);
     }
 
-    private static int linesBehindTheFirst(BrailleCells x) {
-        int lines = 0;
-        for (int i = 0; i < x.told(3); i++) {
-            lines += x.at(i) == 64 ? 1 : 0;
+    private static void writeTooLongGoesBeforeFull() {
+        BrailleCells x = inMeter(10, 16);
+        String bar = times(10, "13456 36 36 36 146 36");
+        fill(x, "5 " + times(58, bar + "_ ") + bar + "_ " + times(10, "13456 36 36 36 146 36 4 14"));
+        due("read", x.read(), 60);
+        for (int i = 0; i < 590; i += 2) {
+            x.slur(i, true);
         }
-        return lines;
+        due("more than 4000", x.write(81), FULL);
+        due("the last bar is too long", x.write(80), -10 - 59);
     }
 
     private static void wants() {
@@ -1365,7 +1408,7 @@ public final class PromiseTests {
 
     public static void main(String[] args) {
         promise = "1 a new object"; newObject();
-        promise = "2 clear"; clear();
+        promise = "2 clear"; clear(); clearLeavesNothing();
         promise = "3 cell"; cell();
         promise = "4 more"; more();
         promise = "5 cut"; cut();
@@ -1382,7 +1425,7 @@ public final class PromiseTests {
         promise = "15 tie"; tie();
         promise = "16 slur"; slur();
         promise = "17 write"; writeRefusals(); writeNotes(); writeLines(); writeOctaves(); writeSizes(); writeSlurs();
-        writeSlursOverVoices(); writeTooLong(); writeFull();
+        writeSlursOverVoices(); writeTooLong(); writeFull(); writeTooLongGoesBeforeFull();
         promise = "18 wants"; wants();
         promise = "19 ways"; ways();
         promise = "20 signed"; signed();
