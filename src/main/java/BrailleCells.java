@@ -357,7 +357,7 @@ public final class BrailleCells {
     }
 
     private static int lengthOf(int kind, int size, int dots) {
-        if (!isKind(kind) || !isDots(dots)) {
+        if (kind < 0 || kind >= KIND_LENGTHS.length || dots < 0 || dots >= DOT_TIMES.length) {
             return 0;
         }
         return KIND_LENGTHS[kind] * DOT_TIMES[dots] * (size == LARGE ? LARGE_TIMES : 1);
