@@ -11,6 +11,7 @@ import java.util.List;
 import java.util.Map;
 import java.util.Random;
 import java.util.TreeSet;
+import java.util.function.ToIntFunction;
 import java.util.regex.Matcher;
 import java.util.regex.Pattern;
 
@@ -49,66 +50,56 @@ public final class FormTests {
         return row;
     }
 
-    private static int call(BrailleCells x, Random r) {
+    private static ToIntFunction<BrailleCells> anyCall(Random r) {
+        int i = any(r);
+        int bar = mostly(r, 0, 3);
+        int voice = mostly(r, 0, 2);
+        int kind = mostly(r, 0, 3);
+        int size = mostly(r, 0, 1);
+        int dots = mostly(r, 0, 2);
+        boolean is = r.nextInt(3) > 0;
         switch (r.nextInt(26)) {
-            case 0: return x.cell(mostly(r, 0, 64));
-            case 1: return x.more(r.nextInt(9) == 0 ? r.nextLong() : bytes(r));
-            case 2: return x.cut(mostly(r, 0, 8));
-            case 3: return x.at(mostly(r, 0, 30));
-            case 4: case 5: return x.read();
-            case 6: return x.meter(mostly(r, 1, 8), 1 << r.nextInt(6));
-            case 7: return x.hand(mostly(r, 0, 2));
-            case 8: return x.bar(r.nextInt(3) == 0);
-            case 9: return x.voice();
-            case 10: case 11: case 12:
-                return x.note(mostly(r, 7, 55), mostly(r, 0, 3), mostly(r, 0, 3), mostly(r, 0, 1), mostly(r, 0, 2));
-            case 13: return x.rest(mostly(r, 0, 3), mostly(r, 0, 1), mostly(r, 0, 2));
-            case 14: return x.rest(0, 2, 0);
-            case 15: return x.interval(mostly(r, 2, 8), mostly(r, 0, 3));
-            case 16: return x.tie(r.nextBoolean());
-            case 17: return x.slur(mostly(r, 0, 8), r.nextInt(4) > 0);
-            case 18: case 19: return x.write(mostly(r, 12, 60));
-            case 20: return x.wants(mostly(r, 7, 55), mostly(r, 7, 55));
-            case 21: return x.ways(mostly(r, 0, 3), mostly(r, 0, 2));
-            case 22: return x.signed(mostly(r, 0, 3), mostly(r, 0, 2));
-            case 23: return x.barOf(mostly(r, 0, 3), mostly(r, 0, 2));
-            case 24: return x.item(mostly(r, 0, 9), mostly(r, 0, 14));
-            default: return r.nextBoolean() ? x.loose() : x.told(mostly(r, 0, 5));
+            case 0: int c = mostly(r, 0, 64); return x -> x.cell(c);
+            case 1: long row = r.nextInt(9) == 0 ? r.nextLong() : bytes(r); return x -> x.more(row);
+            case 2: return x -> x.cut(bar);
+            case 3: int place = mostly(r, 0, 30); return x -> x.at(place);
+            case 4: case 5: return BrailleCells::read;
+            case 6: int up = mostly(r, 1, 8); int down = 1 << r.nextInt(6); return x -> x.meter(up, down);
+            case 7: return x -> x.hand(voice);
+            case 8: return x -> x.bar(!is);
+            case 9: return BrailleCells::voice;
+            case 10: case 11: case 12: int pitch = mostly(r, 7, 55); int sign = mostly(r, 0, 3);
+                return x -> x.note(pitch, sign, kind, size, dots);
+            case 13: return x -> x.rest(kind, size, dots);
+            case 14: return x -> x.rest(0, 2, 0);
+            case 15: int number = mostly(r, 2, 8); return x -> x.interval(number, kind);
+            case 16: return x -> x.tie(is);
+            case 17: int slurred = mostly(r, 0, 8); return x -> x.slur(slurred, is);
+            case 18: case 19: int width = mostly(r, 12, 60); return x -> x.write(width);
+            case 20: int from = mostly(r, 7, 55); int to = mostly(r, 7, 55); return x -> x.wants(from, to);
+            case 21: return x -> x.ways(bar, voice);
+            case 22: return x -> x.signed(bar, voice);
+            case 23: return x -> x.barOf(bar, voice);
+            case 24: int item = mostly(r, 0, 9); int what = mostly(r, 0, 14); return x -> x.item(item, what);
+            default: return i > 5 ? BrailleCells::loose : x -> x.told(bar);
         }
     }
 
-    private static String state(BrailleCells x) {
-        StringBuilder text = new StringBuilder();
-        for (int what = 0; what < 6; what++) {
-            text.append(x.told(what)).append(' ');
-        }
-        for (int b = 0; b < x.told(0); b++) {
-            text.append('|').append(x.barOf(b, 0)).append(' ').append(x.barOf(b, 1)).append(' ').append(x.barOf(b, 2));
-        }
-        for (int i = 0; i < x.told(1); i++) {
-            for (int what = 0; what < 15; what++) {
-                text.append(' ').append(x.item(i, what));
-            }
-        }
-        for (int i = 0; i < x.told(3); i++) {
-            text.append(' ').append(x.at(i));
-        }
-        return text.toString();
-    }
-
+    /** Where refused calls change nothing, all others answer the same if they are left out. */
     private static void anyCalls() {
-        for (int seed = 0; seed < 300; seed++) {
+        for (int seed = 0; seed < 600; seed++) {
             Random r = new Random(seed);
-            BrailleCells x = new BrailleCells();
-            int elements = elementsOf(x);
+            BrailleCells all = new BrailleCells();
+            BrailleCells without = new BrailleCells();
+            int elements = elementsOf(all);
             for (int n = 0; n < 512; n++) {
-                String before = state(x);
-                int answer = call(x, r);
-                if (answer < 0 && !state(x).equals(before)) {
-                    fault("seed " + seed + ", call " + n + " was refused with " + answer + ", but changed something");
+                ToIntFunction<BrailleCells> call = anyCall(r);
+                int answer = call.applyAsInt(all);
+                if (answer >= 0 && answer != call.applyAsInt(without)) {
+                    fault("seed " + seed + ", call " + n + " answered " + answer + " behind refused calls alone");
                 }
             }
-            if (elementsOf(x) != elements) {
+            if (elementsOf(all) != elements) {
                 fault("seed " + seed + ": the object grew");
             }
         }

@@ -443,14 +443,16 @@ public final class OracleTests {
         return t;
     }
 
-    private static void fill(BrailleCells x, List<Integer> row) {
-        x.cut(0);
+    private static Counted withRow(int[] meter, List<Integer> row) {
+        Counted x = new Counted();
+        x.meter(meter[0], meter[1]);
         for (int c : row) {
             x.cell(c);
         }
+        return x;
     }
 
-    private static String itemsOf(BrailleCells x) {
+    private static String itemsOf(Counted x) {
         StringBuilder text = new StringBuilder();
         for (int i = 0; i < x.told(1); i++) {
             for (int what = 0; what < 15; what++) {
@@ -482,10 +484,9 @@ public final class OracleTests {
         int good = 0;
         for (int n = 0; n < 4000; n++) {
             int[] meter = METERS[RANDOM.nextInt(METERS.length)];
-            BrailleCells x = new BrailleCells();
-            int length = x.meter(meter[0], meter[1]);
+            int length = 512 * meter[0] / meter[1];
             Told t = randomTold(length);
-            fill(x, t.row);
+            Counted x = withRow(meter, t.row);
             int grammar = grammarFault(t.row);
             if (grammar != END) {
                 fault("the oracle's own row has a fault at " + grammar + ": " + t.row);
@@ -504,7 +505,7 @@ public final class OracleTests {
                     fault("hand of " + t.row);
                 }
             }
-            spoil(x, t.row);
+            spoil(meter, t.row);
         }
         if (good < 1000) {
             fault("only " + good + " rows were good");
@@ -512,7 +513,7 @@ public final class OracleTests {
     }
 
     /** With a cell changed the fault is where the grammar has it, or ahead of that for what it means. */
-    private static void spoil(BrailleCells x, List<Integer> told) {
+    private static void spoil(int[] meter, List<Integer> told) {
         for (int n = 0; n < 6; n++) {
             List<Integer> row = new ArrayList<>(told);
             int i = RANDOM.nextInt(row.size());
@@ -522,8 +523,7 @@ public final class OracleTests {
                 default: row.add(i, told.get(RANDOM.nextInt(told.size()))); break;
             }
             int grammar = grammarFault(row);
-            fill(x, row);
-            int got = x.read();
+            int got = withRow(meter, row).read();
             if (got >= 0) {
                 if (grammar != END) {
                     fault("read answered " + got + ", but the grammar has a fault at " + grammar + ": " + row);
@@ -565,7 +565,7 @@ public final class OracleTests {
         return bars;
     }
 
-    private static void make(BrailleCells x, List<List<List<Item>>> bars, int hand) {
+    private static void make(Counted x, List<List<List<Item>>> bars, int hand) {
         boolean slurring = false;
         for (List<List<Item>> voices : bars) {
             x.bar(voices.isEmpty());
@@ -585,7 +585,7 @@ public final class OracleTests {
         }
     }
 
-    private static void makeItem(BrailleCells x, Item it, int hand) {
+    private static void makeItem(Counted x, Item it, int hand) {
         if (it.pitch == 0) {
             x.rest(it.kind, it.size, it.dots);
             return;
@@ -757,7 +757,7 @@ public final class OracleTests {
         return done;
     }
 
-    private static List<Integer> rowOf(BrailleCells x) {
+    private static List<Integer> rowOf(Counted x) {
         List<Integer> row = new ArrayList<>();
         for (int i = 0; i < x.told(3); i++) {
             row.add(x.at(i));
@@ -769,7 +769,7 @@ public final class OracleTests {
         int tooLong = 0;
         for (int n = 0; n < 3000; n++) {
             int[] meter = METERS[RANDOM.nextInt(METERS.length)];
-            BrailleCells x = new BrailleCells();
+            Counted x = new Counted();
             int length = x.meter(meter[0], meter[1]);
             int hand = RANDOM.nextInt(3);
             x.hand(hand);
@@ -798,7 +798,7 @@ public final class OracleTests {
         }
     }
 
-    private static void compareVoices(BrailleCells x, List<List<List<Item>>> bars, int length) {
+    private static void compareVoices(Counted x, List<List<List<Item>>> bars, int length) {
         for (int b = 0; b < bars.size(); b++) {
             for (int v = 0; v < bars.get(b).size(); v++) {
                 List<Item> voice = bars.get(b).get(v);
@@ -814,7 +814,7 @@ public final class OracleTests {
         }
     }
 
-    private static void readsAgain(BrailleCells x, int bars) {
+    private static void readsAgain(Counted x, int bars) {
         String items = itemsOf(x);
         int hand = x.told(4);
         if (x.read() != bars || !itemsOf(x).equals(items) || x.told(4) != hand) {

@@ -1,121 +1,9 @@
-import java.util.ArrayList;
-import java.util.List;
-
-/**
- * The promises of the document, one method each. Rows of cells are told as in the document, by their dots:
- * "46 345" is RIGHT, "_" is a BLANK, "/" ends a line.
- */
-public final class PromiseTests {
-    private static int wrong = 0;
-    private static String promise = "";
-
-    private static final int NONE = -1, RANGE = -2, STATE = -3, FULL = -4;
-    private static final int LOW = Integer.MIN_VALUE, HIGH = Integer.MAX_VALUE;
-
-    private static void due(String what, int got, int want) {
-        if (got != want) {
-            wrong++;
-            System.out.println(promise + ": " + what + " answered " + got + ", due is " + want);
-        }
-    }
-
-    private static void dueText(String what, String got, String want) {
-        if (!got.equals(want)) {
-            wrong++;
-            System.out.println(promise + ": " + what + "\n  answered " + got + "\n  due is   " + want);
-        }
-    }
-
+/** The promises of the document one by one, as they are used. */
+public final class PromiseTests extends Bench {
     // ---- helpers
 
-    private static List<Integer> cells(String told) {
-        List<Integer> cells = new ArrayList<>();
-        for (String word : told.trim().split("\\s+")) {
-            if (word.isEmpty()) {
-                continue;
-            }
-            int c = 0;
-            if (word.equals("/")) {
-                c = 64;
-            } else if (!word.equals("_")) {
-                for (char dot : word.toCharArray()) {
-                    c += 1 << (dot - '1');
-                }
-            }
-            cells.add(c);
-        }
-        return cells;
-    }
-
-    private static String dots(int c) {
-        if (c == 64) {
-            return "/";
-        }
-        StringBuilder text = new StringBuilder();
-        for (int d = 0; d < 6; d++) {
-            if ((c >> d & 1) == 1) {
-                text.append(d + 1);
-            }
-        }
-        return c == 0 ? "_" : text.toString();
-    }
-
-    private static String rowOf(BrailleCells x) {
-        StringBuilder text = new StringBuilder();
-        for (int i = 0; i < x.told(3); i++) {
-            text.append(i == 0 ? "" : " ").append(dots(x.at(i)));
-        }
-        return text.toString();
-    }
-
-    private static void fill(BrailleCells x, String told) {
-        x.cut(0);
-        for (int c : cells(told)) {
-            x.cell(c);
-        }
-    }
-
-    private static BrailleCells withRow(String told) {
-        BrailleCells x = new BrailleCells();
-        fill(x, told);
-        return x;
-    }
-
-    private static BrailleCells inMeter(int up, int down) {
-        BrailleCells x = new BrailleCells();
-        x.meter(up, down);
-        return x;
-    }
-
-    private static void dueRead(String told, int want) {
-        due("read of " + told, withRow(told).read(), want);
-    }
-
-    private static void dueReadIn(int up, int down, String told, int want) {
-        BrailleCells x = inMeter(up, down);
-        fill(x, told);
-        due("read in " + up + " " + down + " of " + told, x.read(), want);
-    }
-
-    private static void dueFault(String told, int place) {
-        dueRead(told, -10 - place);
-    }
-
-    private static void dueWritten(BrailleCells x, int width, String want) {
-        due("write(" + width + ")", x.write(width), cells(want).size());
-        dueText("write(" + width + ")", rowOf(x), want);
-    }
-
-    private static String all(BrailleCells x, int what) {
-        StringBuilder text = new StringBuilder();
-        for (int i = 0; i < x.told(1); i++) {
-            text.append(i == 0 ? "" : " ").append(x.item(i, what));
-        }
-        return text.toString();
-    }
-
     /** All that can be asked of an object. */
-    private static String state(BrailleCells x) {
+    private static String state(Counted x) {
         StringBuilder text = new StringBuilder();
         for (int what = 0; what < 6; what++) {
             text.append(x.told(what)).append(' ');
@@ -129,39 +17,31 @@ public final class PromiseTests {
         return text.append('|').append(rowOf(x)).toString();
     }
 
-    private static void notes(BrailleCells x, int count, int pitch, int kind, int size) {
+    private static void notes(Counted x, int count, int pitch, int kind, int size) {
         for (int i = 0; i < count; i++) {
             x.note(pitch, 0, kind, size, 0);
         }
     }
 
     /** A whole voice of 4 4 with a note and a rest. */
-    private static void halves(BrailleCells x, int pitch) {
+    private static void halves(Counted x, int pitch) {
         x.note(pitch, 0, 1, 0, 0);
         x.rest(1, 0, 0);
     }
 
-    private static String times(int n, String told) {
-        StringBuilder text = new StringBuilder();
-        for (int i = 0; i < n; i++) {
-            text.append(told).append(' ');
-        }
-        return text.toString();
-    }
-
     // ---- 1 to 6: the row
 
-    private static void newObject() {
-        BrailleCells x = new BrailleCells();
+    static void p01_newObject() {
+        Counted x = new Counted();
         dueText("a new object", state(x), "0 0 512 0 0 0 ||||||||||||||||");
         due("read", x.read(), -10);
         due("write", x.write(40), STATE);
         due("meter", x.meter(4, 4), 512);
     }
 
-    private static void clear() {
-        BrailleCells x = inMeter(3, 4);
-        String fresh = state(new BrailleCells());
+    static void p02_clear() {
+        Counted x = inMeter(3, 4);
+        String fresh = state(new Counted());
         x.hand(2);
         x.bar(false);
         x.note(28, 1, 1, 0, 1);
@@ -179,8 +59,8 @@ public final class PromiseTests {
     }
 
     /** What was there before must not show behind what is there now. */
-    private static void clearLeavesNothing() {
-        BrailleCells x = new BrailleCells();
+    static void p02_clearLeavesNothing() {
+        Counted x = new Counted();
         x.bar(false);
         for (int i = 0; i < 4; i++) {
             x.note(50, 0, 2, 0, 0);
@@ -216,8 +96,8 @@ public final class PromiseTests {
         due("ways of an empty voice", x.ways(0, 0), 0);
     }
 
-    private static void cell() {
-        BrailleCells x = new BrailleCells();
+    static void p03_cell() {
+        Counted x = new Counted();
         due("cell(0)", x.cell(0), 1);
         due("cell(63)", x.cell(63), 2);
         due("cell(64)", x.cell(64), 3);
@@ -225,24 +105,16 @@ public final class PromiseTests {
             due("cell(" + c + ")", x.cell(c), RANGE);
         }
         dueText("the row", rowOf(x), "_ 123456 /");
-        BrailleCells full = fullRow();
+        Counted full = fullRow();
         due("cells", full.told(3), 4000);
         due("cell behind 4000", full.cell(1), FULL);
         due("a wrong cell behind 4000", full.cell(65), RANGE);
         due("cells", full.told(3), 4000);
-        due("the last", full.at(3999), 1);
+        due("the last", full.at(3999), 8);
     }
 
-    private static BrailleCells fullRow() {
-        BrailleCells x = new BrailleCells();
-        for (int i = 0; i < 500; i++) {
-            x.more(0x4141414141414141L);
-        }
-        return x;
-    }
-
-    private static void more() {
-        BrailleCells x = new BrailleCells();
+    static void p04_more() {
+        Counted x = new Counted();
         due("nothing", x.more(0L), 0);
         due("some", x.more(0x0040007F00800041L), 4);
         dueText("highest first", rowOf(x), "_ 123456 / 1");
@@ -253,7 +125,7 @@ public final class PromiseTests {
             due("more(" + Long.toHexString(bad) + ")", x.more(bad), RANGE);
         }
         due("128 alone", x.more(Long.MIN_VALUE), 13);
-        BrailleCells full = fullRow();
+        Counted full = fullRow();
         due("nothing behind 4000", full.more(0L), 4000);
         due("one behind 4000", full.more(0x41L), FULL);
         due("wrong behind 4000", full.more(0x4101L), RANGE);
@@ -263,8 +135,8 @@ public final class PromiseTests {
         due("seven fit", full.more(0x4141414100414141L), 4000);
     }
 
-    private static void cut() {
-        BrailleCells x = withRow("1 2 3 4 5");
+    static void p05_cut() {
+        Counted x = withRow("1 2 3 4 5");
         due("cut(-1)", x.cut(-1), RANGE);
         due("cut(6)", x.cut(6), RANGE);
         due("cut(LOW)", x.cut(LOW), RANGE);
@@ -277,8 +149,8 @@ public final class PromiseTests {
         due("a cell", x.cell(9), 1);
     }
 
-    private static void at() {
-        BrailleCells x = withRow("1 / 3");
+    static void p06_at() {
+        Counted x = withRow("1 / 3");
         due("at(0)", x.at(0), 1);
         due("at(1)", x.at(1), 64);
         due("at(2)", x.at(2), 4);
@@ -291,7 +163,7 @@ public final class PromiseTests {
 
     // ---- 7: reading
 
-    private static void readGrammar() {
+    static void p07_readGrammar() {
         dueFault("", 0);
         dueFault("_", 0);
         dueFault("/", 0);
@@ -338,7 +210,7 @@ public final class PromiseTests {
         dueRead("45 126 2 56 12 134 45 23", 1);
     }
 
-    private static void readSlurs() {
+    static void p07_readSlurs() {
         dueFault("134 45 23", 2);
         dueFault("56 12 134", 3);
         dueFault("56 12 134 _ 134", 5);
@@ -351,7 +223,7 @@ public final class PromiseTests {
         dueFault("56 12 134 _ 56 12 134 45 23", 5);
         dueFault("134 14 45 23", 3);
         dueFault("5 13456 56 12", 4);
-        BrailleCells x = withRow("56 12 134 / 134 _ 134 45 23 _ 134 14 _ 134");
+        Counted x = withRow("56 12 134 / 134 _ 134 45 23 _ 134 14 _ 134");
         due("read", x.read(), 5);
         dueText("slurred", all(x, 9), "1 1 0 1 0");
         dueText("bar rests", all(x, 5), "2 2 2 2 2");
@@ -365,8 +237,8 @@ public final class PromiseTests {
         due("it is a bar rest", x.item(0, 5), 2);
     }
 
-    private static void readNotes() {
-        BrailleCells x = withRow("456 345 5 13456 126 346 16 34 4 14 14 _ 146 13456 3");
+    static void p07_readNotes() {
+        Counted x = withRow("456 345 5 13456 126 346 16 34 4 14 14 _ 146 13456 3");
         due("the dot is too long", x.read(), -10 - 15);
         fill(x, "456 345 5 13456 126 346 16 34 4 14 14 _ 146 1346");
         due("a sharp of a rest", x.read(), -10 - 13);
@@ -413,8 +285,8 @@ public final class PromiseTests {
         dueText("no pitches", all(x, 2), "-1 -1 -1 -1");
     }
 
-    private static void readIntervals() {
-        BrailleCells x = withRow("5 13456 34 346 3456 35");
+    static void p07_readIntervals() {
+        Counted x = withRow("5 13456 34 346 3456 35");
         due("four", x.read(), 1);
         dueText("four", x.item(0, 11) + " " + x.item(0, 12) + " " + x.item(0, 13) + " " + x.item(0, 14), "2 3 4 5");
         x = withRow("5 13456 356 25 146 36");
@@ -437,7 +309,7 @@ public final class PromiseTests {
         dueFault("456 345 6 23456 34", 4);
         dueRead("456 345 6 2346 34", 1);
         // The hand that was told by a call does not matter.
-        x = new BrailleCells();
+        x = new Counted();
         x.hand(2);
         fill(x, "4 13456 34");
         due("without a hand", x.read(), -12);
@@ -447,21 +319,21 @@ public final class PromiseTests {
         due("HAND is what the row tells", x.told(4), 0);
     }
 
-    private static void readSizes() {
+    static void p07_readSizes() {
         // A bar rest, and what is none.
-        BrailleCells x = inMeter(3, 4);
+        Counted x = inMeter(3, 4);
         fill(x, "134");
         due("a bar rest", x.read(), 1);
         dueText("it", x.item(0, 5) + " " + x.item(0, 7), "2 384");
-        dueReadIn(3, 4, "45 126 2 134", -14);
-        dueReadIn(3, 4, "134 3", -12);
-        dueReadIn(3, 4, "136 3", 1);
-        dueReadIn(3, 4, "136 3 126 345 136", -10 - 5);
-        dueReadIn(3, 4, "136 126 345 136 3", -11);
-        dueReadIn(3, 4, "136 / 136 3", -11);
-        dueReadIn(3, 4, "136", -11);
+        dueRead(3, 4, "45 126 2 134", -14);
+        dueRead(3, 4, "134 3", -12);
+        dueRead(3, 4, "136 3", 1);
+        dueRead(3, 4, "136 3 126 345 136", -10 - 5);
+        dueRead(3, 4, "136 126 345 136 3", -11);
+        dueRead(3, 4, "136 / 136 3", -11);
+        dueRead(3, 4, "136", -11);
         // While a slur is open 126 could still be a flat.
-        dueReadIn(3, 4, "56 12 136 126 345 136 3", -14);
+        dueRead(3, 4, "56 12 136 126 345 136 3", -14);
         x = withRow("45 126 2 134");
         due("no bar rest", x.read(), 1);
         due("it", x.item(0, 5), 0);
@@ -502,8 +374,8 @@ public final class PromiseTests {
         dueText("two voices, two bars", all(x, 5), "1 1 1 1 1 1 1 1 0 0");
     }
 
-    private static void readTiedSizes() {
-        BrailleCells x = inMeter(9, 16);
+    static void p07_readTiedSizes() {
+        Counted x = inMeter(9, 16);
         fill(x, "1236 1236 1236");
         due("288 is none", x.read(), -13);
         // 160 = 128 + 16 + 16: the half as a large one is 256, so the quarter is large.
@@ -534,7 +406,7 @@ public final class PromiseTests {
         dueText("its neighbour", all(x, 5), "1 1 1 1 1 1 1 1 0 0");
     }
 
-    private static void readOctaves() {
+    static void p07_readOctaves() {
         dueFault("13456", 0);
         dueFault("146 13456", 1);
         dueFault("136 1345", 1);
@@ -553,7 +425,7 @@ public final class PromiseTests {
         dueRead("5 13456 / 5 13456 _ 13456", 3);
         // A sign where none is wanted.
         dueRead("5 13456 _ 5 13456", 2);
-        BrailleCells x = inMeter(2, 1);
+        Counted x = inMeter(2, 1);
         fill(x, "5 1345 12345 1235 1345");
         due("fourth, second, fourth down", x.read(), 1);
         dueText("fourth, second, fourth down", all(x, 2), "28 31 32 28");
@@ -578,10 +450,10 @@ public final class PromiseTests {
         due("the second highest", x.read(), 1);
     }
 
-    private static void readLimits() {
+    static void p07_readLimits() {
         // 40 items in a voice, and what may stand behind them.
         String forty = times(40, "134").trim();
-        BrailleCells x = inMeter(10, 4);
+        Counted x = inMeter(10, 4);
         fill(x, forty);
         due("forty", x.read(), 1);
         fill(x, forty + " 134");
@@ -626,41 +498,19 @@ public final class PromiseTests {
         due("the 61st with a voice", x.read(), -10 - 120);
     }
 
-    private static void readManyItems() {
-        // 600 items: 15 bars of forty.
-        BrailleCells x = inMeter(10, 4);
-        StringBuilder row = new StringBuilder();
-        for (int b = 0; b < 15; b++) {
-            row.append(b == 0 ? "" : " _ ").append(times(40, "134").trim());
-        }
-        fill(x, row.toString());
+    static void p07_readManyItems() {
+        Counted x = inMeter(10, 4);
+        fill(x, sixHundred());
         due("600", x.read(), 15);
         due("600", x.told(1), 600);
-        int end = 15 * 41 - 1;
         due("the last one", x.item(599, 0), 14);
         due("no more by bars", x.bar(false), 15);
         due("no more by notes", x.note(28, 0, 3, 0, 0), FULL);
         due("no more by bar rests", x.rest(0, 2, 0), FULL);
-        fill(x, row + " _ 2356 / 2356");
+        fill(x, sixHundred() + " _ 2356 / 2356");
         due("repeated ones behind 600", x.read(), 17);
-        fill(x, row + " _ 134");
-        due("a voice behind 600", x.read(), -10 - end - 1);
-        fill(x, row + " _ 2");
-        due("something behind 600", x.read(), -10 - end - 1);
-        fill(x, row + " _");
-        due("the end behind 600", x.read(), -10 - end - 1);
-        fill(x, row + " 126 345 134");
-        due("another voice behind 600", x.read(), -10 - end - 2);
-        fill(x, row.toString());
-        x.cut(end - 1);
-        due("a cell cut off", x.read(), -10 - end + 1);
-        x = inMeter(15, 8);
-        String thirty = times(30, "134");
-        fill(x, times(19, thirty + "_ ") + thirty);
-        due("600 by thirties", x.read(), 20);
-        fill(x, times(19, thirty + "_ ") + thirty + "134");
-        due("the 601st", x.read(), -10 - 619);
-        x = inMeter(10, 4);
+        x.cut(13);
+        due("a part of a bar", x.read(), -10 - 13);
         fill(x, "6 126 2 " + times(40, "134") + "_ " + times(10, "1236") + "126 345 134");
         due("several voices", x.read(), 2);
         due("several voices", x.barOf(1, 2), 11);
@@ -668,8 +518,8 @@ public final class PromiseTests {
         due("told each time", x.read(), 1);
     }
 
-    private static void readKeeps() {
-        BrailleCells x = inMeter(3, 4);
+    static void p07_readKeeps() {
+        Counted x = inMeter(3, 4);
         x.hand(1);
         x.bar(false);
         x.note(30, 1, 1, 0, 1);
@@ -690,8 +540,8 @@ public final class PromiseTests {
 
     // ---- 8 to 16: making
 
-    private static void meter() {
-        BrailleCells x = new BrailleCells();
+    static void p08_meter() {
+        Counted x = new Counted();
         int[][] told = {{4, 4, 512}, {1, 16, 32}, {16, 16, 512}, {16, 4, 2048}, {4, 1, 2048}, {8, 2, 2048}, {3, 8, 192},
             {1, 1, 512}, {5, 1, RANGE}, {9, 2, RANGE}, {16, 1, RANGE}, {0, 4, RANGE}, {17, 16, RANGE}, {4, 0, RANGE},
             {4, 3, RANGE}, {4, 32, RANGE}, {-4, 4, RANGE}, {4, -4, RANGE}, {HIGH, HIGH, RANGE}, {LOW, 1, RANGE}};
@@ -706,8 +556,8 @@ public final class PromiseTests {
         due("LENGTH", x.told(2), 512);
     }
 
-    private static void hand() {
-        BrailleCells x = new BrailleCells();
+    static void p09_hand() {
+        Counted x = new Counted();
         due("hand(3)", x.hand(3), RANGE);
         due("hand(-1)", x.hand(-1), RANGE);
         due("hand(2)", x.hand(2), 0);
@@ -723,7 +573,7 @@ public final class PromiseTests {
         due("HAND stays", x.told(4), 0);
         due("wrong and not now", x.hand(9), RANGE);
         due("right is as none", x.hand(1), 0);
-        x = new BrailleCells();
+        x = new Counted();
         x.hand(2);
         x.bar(false);
         x.note(8, 0, 1, 0, 0);
@@ -737,8 +587,8 @@ public final class PromiseTests {
         due("HAND stays", x.hand(2), 2);
     }
 
-    private static void bar() {
-        BrailleCells x = new BrailleCells();
+    static void p10_bar() {
+        Counted x = new Counted();
         due("the first is repeated", x.bar(true), STATE);
         due("the first", x.bar(false), 0);
         due("behind an empty voice", x.bar(false), STATE);
@@ -758,7 +608,7 @@ public final class PromiseTests {
         due("the 61st", x.bar(true), FULL);
         due("the 61st", x.bar(false), FULL);
         due("bars", x.told(0), 60);
-        x = new BrailleCells();
+        x = new Counted();
         x.bar(false);
         x.rest(0, 2, 0);
         for (int b = 1; b < 59; b++) {
@@ -768,8 +618,8 @@ public final class PromiseTests {
         due("not whole goes before full", x.bar(false), STATE);
     }
 
-    private static void voice() {
-        BrailleCells x = new BrailleCells();
+    static void p11_voice() {
+        Counted x = new Counted();
         due("no bar", x.voice(), STATE);
         x.bar(false);
         due("an empty voice", x.voice(), STATE);
@@ -786,8 +636,8 @@ public final class PromiseTests {
         due("repeated", x.voice(), STATE);
     }
 
-    private static void note() {
-        BrailleCells x = new BrailleCells();
+    static void p12_note() {
+        Counted x = new Counted();
         due("no bar", x.note(28, 0, 0, 0, 0), STATE);
         x.bar(false);
         int[][] bad = {{6, 0, 0, 0, 0}, {56, 0, 0, 0, 0}, {28, -1, 0, 0, 0}, {28, 4, 0, 0, 0}, {28, 0, -1, 0, 0},
@@ -819,8 +669,8 @@ public final class PromiseTests {
         due("the 41st as a rest", x.rest(3, 1, 0), FULL);
     }
 
-    private static void rest() {
-        BrailleCells x = new BrailleCells();
+    static void p13_rest() {
+        Counted x = new Counted();
         due("no bar", x.rest(0, 0, 0), STATE);
         due("no bar", x.rest(0, 2, 0), STATE);
         x.bar(false);
@@ -845,8 +695,8 @@ public final class PromiseTests {
         due("repeated", x.rest(0, 2, 0), STATE);
     }
 
-    private static void interval() {
-        BrailleCells x = new BrailleCells();
+    static void p14_interval() {
+        Counted x = new Counted();
         due("no item", x.interval(2, 0), STATE);
         x.bar(false);
         x.note(11, 0, 1, 0, 0);
@@ -867,7 +717,7 @@ public final class PromiseTests {
             + x.item(0, 14), "4 53 18 18 35");
         x.rest(1, 0, 0);
         due("a rest", x.interval(2, 0), STATE);
-        x = new BrailleCells();
+        x = new Counted();
         x.hand(2);
         x.bar(false);
         x.note(50, 0, 0, 0, 0);
@@ -877,8 +727,8 @@ public final class PromiseTests {
         due("the last item is that of the bar before", x.interval(2, 0), 2);
     }
 
-    private static void tie() {
-        BrailleCells x = new BrailleCells();
+    static void p15_tie() {
+        Counted x = new Counted();
         due("no item", x.tie(true), STATE);
         x.bar(false);
         due("no item", x.tie(false), STATE);
@@ -894,8 +744,8 @@ public final class PromiseTests {
         due("a rest", x.tie(false), STATE);
     }
 
-    private static void slur() {
-        BrailleCells x = new BrailleCells();
+    static void p16_slur() {
+        Counted x = new Counted();
         due("no item", x.slur(0, true), NONE);
         x.bar(false);
         halves(x, 28);
@@ -912,8 +762,8 @@ public final class PromiseTests {
 
     // ---- 17 to 20: writing
 
-    private static void writeRefusals() {
-        BrailleCells x = withRow("1 2 3");
+    static void p17_writeRefusals() {
+        Counted x = withRow("1 2 3");
         due("no bars", x.write(40), STATE);
         due("no bars, wrong", x.write(11), RANGE);
         x.bar(false);
@@ -932,8 +782,8 @@ public final class PromiseTests {
         dueWritten(x, 40, "134 126 345 134 _ 2356");
     }
 
-    private static void writeNotes() {
-        BrailleCells x = new BrailleCells();
+    static void p17_writeNotes() {
+        Counted x = new Counted();
         x.hand(1);
         x.bar(false);
         x.note(28, 1, 1, 0, 0);
@@ -978,9 +828,9 @@ public final class PromiseTests {
         dueWritten(x, 12, octaves[4] + " 3456 356 " + octaves[5] + " 35 25 " + octaves[6] + " 356 36");
     }
 
-    private static void writeLines() {
+    static void p17_writeLines() {
         // Bars of 5 cells: the octave sign goes where the bar stands behind a blank.
-        BrailleCells x = new BrailleCells();
+        Counted x = new Counted();
         for (int b = 0; b < 5; b++) {
             x.bar(false);
             notes(x, 4, 28, 2, 0);
@@ -995,7 +845,7 @@ public final class PromiseTests {
         dueWritten(x, 12, "456 345 5 " + four + " _ " + four + " / 5 " + four + " _ " + four + " / 5 " + four);
         dueWritten(x, 16, "456 345 5 " + four + " _ " + four + " / 5 " + four + " _ " + four + " _ " + four);
         // A rest at a line's begin leaves the octave to the next note.
-        x = new BrailleCells();
+        x = new Counted();
         x.bar(false);
         notes(x, 8, 28, 3, 0);
         x.bar(false);
@@ -1008,8 +858,8 @@ public final class PromiseTests {
         dueWritten(x, 12, "5 " + times(8, "145") + "_ 136 136 / 134 _ 5 1345 1345");
     }
 
-    private static void writeOctaves() {
-        BrailleCells x = new BrailleCells();
+    static void p17_writeOctaves() {
+        Counted x = new Counted();
         x.bar(false);
         x.note(28, 0, 0, 0, 0);
         x.voice();
@@ -1028,9 +878,9 @@ public final class PromiseTests {
         dueWritten(x, 60, "5 13456 126 345 5 13456 _ 134 _ 5 13456 _ 123456 _ 46 13456 _ 2356 _ 46 13456");
     }
 
-    private static void writeSizes() {
+    static void p17_writeSizes() {
         // As it is read without signs.
-        BrailleCells x = inMeter(5, 16);
+        Counted x = inMeter(5, 16);
         x.bar(false);
         x.rest(2, 0, 0);
         for (int i = 0; i < 4; i++) {
@@ -1051,7 +901,7 @@ public final class PromiseTests {
         due("read again", x.read(), 1);
         dueText("sizes", all(x, 5), "1 0 1 1 1");
         // A rest that is no bar rest, and one that is.
-        x = new BrailleCells();
+        x = new Counted();
         x.bar(false);
         x.rest(0, 0, 0);
         due("signed", x.signed(0, 0), 1);
@@ -1066,8 +916,8 @@ public final class PromiseTests {
         dueWritten(x, 12, "6 126 2 134 14");
     }
 
-    private static BrailleCells eighths(int bars) {
-        BrailleCells x = inMeter(4, 8);
+    private static Counted eighths(int bars) {
+        Counted x = inMeter(4, 8);
         for (int b = 0; b < bars; b++) {
             x.bar(false);
             notes(x, 4, 28, 3, 0);
@@ -1075,9 +925,9 @@ public final class PromiseTests {
         return x;
     }
 
-    private static void writeSlurs() {
+    static void p17_writeSlurs() {
         String four = "145 145 145 145";
-        BrailleCells x = eighths(2);
+        Counted x = eighths(2);
         for (int i = 0; i < 3; i++) {
             x.slur(i, true);
         }
@@ -1116,8 +966,8 @@ public final class PromiseTests {
         dueWritten(x, 60, "56 12 5 " + four + " _ " + four + " 45 23 _ 2356");
     }
 
-    private static void writeSlursOverVoices() {
-        BrailleCells x = eighths(1);
+    static void p17_writeSlursOverVoices() {
+        Counted x = eighths(1);
         x.voice();
         notes(x, 4, 28, 3, 0);
         for (int i = 2; i < 7; i++) {
@@ -1132,7 +982,7 @@ public final class PromiseTests {
         }
         dueWritten(x, 60, "5 145 145 145 145 126 345 56 12 5 145 145 145 145 _ 5 145 145 145 145 45 23");
         // OPEN stands behind the size's sign, and SLUR behind the tie.
-        x = new BrailleCells();
+        x = new Counted();
         x.bar(false);
         x.rest(0, 0, 0);
         x.slur(0, true);
@@ -1145,8 +995,8 @@ public final class PromiseTests {
         dueWritten(x, 60, "45 126 2 56 12 134 _ 5 13456 _ 13456 _ 13456 _ 13456 4 14 45 23");
     }
 
-    private static void writeTooLong() {
-        BrailleCells x = new BrailleCells();
+    static void p17_writeTooLong() {
+        Counted x = new Counted();
         x.bar(false);
         x.rest(0, 2, 0);
         x.bar(false);
@@ -1156,7 +1006,7 @@ public final class PromiseTests {
         due("the second has 18", x.write(17), -11);
         dueText("the row stays", rowOf(x), "1 2");
         due("18 fit", x.write(18), 20);
-        x = new BrailleCells();
+        x = new Counted();
         x.hand(1);
         x.bar(false);
         notes(x, 8, 28, 3, 0);
@@ -1168,41 +1018,8 @@ public final class PromiseTests {
         due("12 fit", x.write(12), 12);
     }
 
-    private static void writeFull() {
-        // 60 bars of ten notes with intervals, 60 cells each and an octave sign each line, one bar in a line.
-        BrailleCells x = inMeter(10, 16);
-        String bar = times(10, "13456 36 36 36 146 36");
-        fill(x, "5 " + times(59, bar + "_ ") + bar);
-        due("read", x.read(), 60);
-        due("without slurs", x.write(100), 60 * 61 + 59);
-        for (int i = 0; i < 281; i++) {
-            x.slur(2 * i, true);
-        }
-        due("just 4000", x.write(100), 4000);
-        due("just 4000", x.told(3), 4000);
-        fill(x, "1 2 3");
-        x.slur(2 * 281, true);
-        due("one more", x.write(100), FULL);
-        dueText("the row stays", rowOf(x), "1 2 3");
-        x.voice();
-        due("not whole goes before full", x.write(100), STATE);
-        due("a wrong width goes before full", x.write(11), RANGE);
-    }
-
-    private static void writeTooLongGoesBeforeFull() {
-        BrailleCells x = inMeter(10, 16);
-        String bar = times(10, "13456 36 36 36 146 36");
-        fill(x, "5 " + times(58, bar + "_ ") + bar + "_ " + times(10, "13456 36 36 36 146 36 4 14"));
-        due("read", x.read(), 60);
-        for (int i = 0; i < 590; i += 2) {
-            x.slur(i, true);
-        }
-        due("more than 4000", x.write(81), FULL);
-        due("the last bar is too long", x.write(80), -10 - 59);
-    }
-
-    private static void wants() {
-        BrailleCells x = new BrailleCells();
+    static void p18_wants() {
+        Counted x = new Counted();
         for (int from = 7; from <= 55; from++) {
             for (int to = 7; to <= 55; to++) {
                 int apart = Math.max(from, to) - Math.min(from, to);
@@ -1216,8 +1033,8 @@ public final class PromiseTests {
         }
     }
 
-    private static void ways() {
-        BrailleCells x = new BrailleCells();
+    static void p19_ways() {
+        Counted x = new Counted();
         due("no bar", x.ways(0, 0), NONE);
         x.bar(false);
         due("an empty voice", x.ways(0, 0), 0);
@@ -1248,8 +1065,8 @@ public final class PromiseTests {
         due("a bar rest is no way", x.ways(0, 0), 0);
     }
 
-    private static void signed() {
-        BrailleCells x = new BrailleCells();
+    static void p20_signed() {
+        Counted x = new Counted();
         due("no bar", x.signed(0, 0), NONE);
         x.bar(false);
         due("an empty voice", x.signed(0, 0), STATE);
@@ -1265,7 +1082,7 @@ public final class PromiseTests {
         for (int[] n : none) {
             due("signed(" + n[0] + ", " + n[1] + ")", x.signed(n[0], n[1]), NONE);
         }
-        x = new BrailleCells();
+        x = new Counted();
         x.bar(false);
         x.note(28, 0, 0, 0, 0);
         due("a note alone", x.signed(0, 0), 0);
@@ -1279,8 +1096,8 @@ public final class PromiseTests {
 
     // ---- 21 to 24: what there is
 
-    private static void barOf() {
-        BrailleCells x = new BrailleCells();
+    static void p21_barOf() {
+        Counted x = new Counted();
         due("no bar", x.barOf(0, 0), NONE);
         due("no bar, wrong", x.barOf(0, 9), NONE);
         x.bar(false);
@@ -1305,8 +1122,8 @@ public final class PromiseTests {
         due("barOf(-1, 0)", x.barOf(-1, 0), NONE);
     }
 
-    private static void item() {
-        BrailleCells x = new BrailleCells();
+    static void p22_item() {
+        Counted x = new Counted();
         due("no item", x.item(0, 0), NONE);
         x.bar(false);
         x.rest(0, 2, 0);
@@ -1339,7 +1156,7 @@ public final class PromiseTests {
         int[] large = {512, 256, 128, 64, 768, 384, 192, 96, 896, 448, 224, 112};
         int[] small = {32, 16, 8, 4, 48, 24, 12, 6, 56, 28, 14, 7};
         for (int n = 0; n < 12; n++) {
-            BrailleCells y = inMeter(4, 1);
+            Counted y = inMeter(4, 1);
             y.bar(false);
             y.note(28, 0, n % 4, 0, n / 4);
             y.rest(n % 4, 1, n / 4);
@@ -1349,8 +1166,8 @@ public final class PromiseTests {
         }
     }
 
-    private static void loose() {
-        BrailleCells x = new BrailleCells();
+    static void p23_loose() {
+        Counted x = new Counted();
         due("nothing", x.loose(), 0);
         x.bar(false);
         x.note(28, 0, 2, 0, 0);
@@ -1381,8 +1198,8 @@ public final class PromiseTests {
         due("into another voice", x.loose(), 2);
     }
 
-    private static void told() {
-        BrailleCells x = inMeter(3, 4);
+    static void p24_told() {
+        Counted x = inMeter(3, 4);
         for (int what : new int[] {-1, 6, LOW, HIGH}) {
             due("told(" + what + ")", x.told(what), RANGE);
         }
@@ -1407,35 +1224,6 @@ public final class PromiseTests {
     }
 
     public static void main(String[] args) {
-        promise = "1 a new object"; newObject();
-        promise = "2 clear"; clear(); clearLeavesNothing();
-        promise = "3 cell"; cell();
-        promise = "4 more"; more();
-        promise = "5 cut"; cut();
-        promise = "6 at"; at();
-        promise = "7 read"; readGrammar(); readSlurs(); readNotes(); readIntervals(); readSizes(); readTiedSizes();
-        readOctaves(); readLimits(); readManyItems(); readKeeps();
-        promise = "8 meter"; meter();
-        promise = "9 hand"; hand();
-        promise = "10 bar"; bar();
-        promise = "11 voice"; voice();
-        promise = "12 note"; note();
-        promise = "13 rest"; rest();
-        promise = "14 interval"; interval();
-        promise = "15 tie"; tie();
-        promise = "16 slur"; slur();
-        promise = "17 write"; writeRefusals(); writeNotes(); writeLines(); writeOctaves(); writeSizes(); writeSlurs();
-        writeSlursOverVoices(); writeTooLong(); writeFull(); writeTooLongGoesBeforeFull();
-        promise = "18 wants"; wants();
-        promise = "19 ways"; ways();
-        promise = "20 signed"; signed();
-        promise = "21 barOf"; barOf();
-        promise = "22 item"; item();
-        promise = "23 loose"; loose();
-        promise = "24 told"; told();
-        System.out.println(wrong == 0 ? "all answers are as due" : wrong + " answers are not as due");
-        if (wrong != 0) {
-            System.exit(1);
-        }
+        runAll(PromiseTests.class);
     }
 }
