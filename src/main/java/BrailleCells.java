@@ -363,6 +363,10 @@ public final class BrailleCells {
         return KIND_LENGTHS[kind] * DOT_TIMES[dots] * (size == LARGE ? LARGE_TIMES : 1);
     }
 
+    private static int cellAt(int[] table, int index) {
+        return index >= 0 && index < table.length ? table[index] : BLANK;
+    }
+
     private static int indexIn(int[] table, int value) {
         for (int i = 0; i < table.length; i++) {
             if (table[i] == value) {
@@ -1080,7 +1084,7 @@ public final class BrailleCells {
             if (music.isNote(item)) {
                 putNote(item);
             } else {
-                row.put(REST_CELLS[music.kind[item]]);
+                row.put(cellAt(REST_CELLS, music.kind[item]));
                 putDots(item);
             }
             if (marks[item] == SLUR_MARK) {
@@ -1095,15 +1099,15 @@ public final class BrailleCells {
             int pitch = music.pitch[item];
             putSign(music.sign[item]);
             if (watch.needsSign(pitch)) {
-                row.put(OCTAVE_CELLS[pitch / STEPS - 1]);
+                row.put(cellAt(OCTAVE_CELLS, pitch / STEPS - 1));
             }
             watch.heard(pitch);
-            row.put(STEP_CELLS[pitch % STEPS] + KIND_CELLS[music.kind[item]]);
+            row.put(cellAt(STEP_CELLS, pitch % STEPS) + cellAt(KIND_CELLS, music.kind[item]));
             putDots(item);
             for (int k = 0; k < music.intervalsOf[item]; k++) {
                 int told = music.intervalAt(item, k);
                 putSign(told >> 4);
-                row.put(INTERVAL_CELLS[(told & 15) - 2]);
+                row.put(cellAt(INTERVAL_CELLS, (told & 15) - 2));
             }
             if (music.tied[item] == 1) {
                 putTwo(TIE_FIRST, TIE_SECOND);
@@ -1111,8 +1115,8 @@ public final class BrailleCells {
         }
 
         private void putSign(int sign) {
-            if (sign > 0 && sign <= SIGN_CELLS.length) {
-                row.put(SIGN_CELLS[sign - 1]);
+            if (sign > 0) {
+                row.put(cellAt(SIGN_CELLS, sign - 1));
             }
         }
 

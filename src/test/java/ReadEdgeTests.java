@@ -45,6 +45,15 @@ public final class ReadEdgeTests extends Bench {
         due("KIND", x.item(0, 4), 0);
     }
 
+    static void t3_restCells_haveNoSignNoTieNoIntervals() {
+        Counted x = reading("5 1345 34 4 14 136 14");
+        due("SIGN", x.item(1, 3), 0);
+        due("TIED", x.item(1, 8), 0);
+        due("INTERVALS", x.item(1, 10), 0);
+        due("the first", x.item(1, 11), 0);
+        due("of a bar rest", reading("134").item(0, 3), 0);
+    }
+
     static void t3_octaveSigns_allSevenWithTheLowestAndHighestStep() {
         for (int octave = 1; octave <= 7; octave++) {
             Counted x = reading(OCTAVE_SIGNS[octave - 1] + " 13456");
@@ -403,6 +412,42 @@ public final class ReadEdgeTests extends Bench {
         dueText("SIZES", all(x, 5), "0 0 1 1 1 1 1 1 1 1");
     }
 
+    private static void dueSizes(int up, int down, String row, String want) {
+        dueText("SIZES of " + row + " in " + up + " " + down, all(reading(up, down, row), 5), want);
+    }
+
+    static void t3_sizes_leastOftenThoughAnotherWayHasLargeFirst() {
+        dueSizes(5, 16, "136 3 1236 1236", "1 1 0");
+        dueSizes(13, 16, "1236 136 3 136 3", "1 1 0");
+        dueSizes(13, 16, "1236 1236 136 136 3", "1 1 1 0");
+        dueSizes(11, 16, "1236 1236 136 3 1346 1236", "0 1 1 0 0");
+        dueSizes(15, 16, "1236 1236 136 3 1236 3 1236", "0 1 1 0 0");
+    }
+
+    static void t3_sizes_asOftenUnlikeThenLargeFirst() {
+        dueSizes(5, 16, "1236 136 3 1236", "0 1 1");
+        dueSizes(9, 16, "136 136 136", "0 1 1");
+        dueSizes(9, 16, "1236 1236 136 136", "0 0 1 1");
+        dueSizes(3, 16, "136 1346 1346 1236 3", "1 0 1 1");
+        dueSizes(7, 8, "1236 136 3 136 3 134", "1 0 1 1");
+        dueSizes(13, 16, "1236 1236 136 3 1236 1236", "0 0 1 1 0");
+    }
+
+    static void t3_sizes_ofTheLongestBar() {
+        dueSizes(4, 1, times(4, "134"), "0 0 0 0");
+        dueSizes(4, 1, times(19, "134"), "0 0 0 " + times(16, "1").trim());
+        dueSizes(4, 1, times(34, "134"), "0 0 " + times(32, "1").trim());
+        dueSizes(4, 1, "134 3 3 134 3 3 136", "0 0 0");
+    }
+
+    static void t3_sizes_ofTheShortestBar() {
+        dueSizes(1, 16, times(8, "1346"), "1 1 1 1 1 1 1 1");
+        dueSizes(1, 16, "136 1236 1236", "1 1 1");
+        dueSizes(1, 16, "136 3 1236", "1 1");
+        dueFault(1, 16, times(9, "1346"), 9);
+        dueFault(1, 16, times(7, "1346"), 7);
+    }
+
     static void t3_sizes_theToldNeighbourCounts() {
         Counted x = reading(5, 8, times(9, "1236") + "45 126 2 1236");
         dueText("SIZES", all(x, 5), "1 1 1 1 1 1 1 1 0 0");
@@ -546,6 +591,42 @@ public final class ReadEdgeTests extends Bench {
             fill(x, sixHundred() + " 2");
             return x;
         }, Counted::read, -10 - 614);
+    }
+
+    /** Nothing of a row that was refused is left for the next one. */
+    static void p07_read_behindARefusedOne() {
+        Counted x = withRow("56 12 134 _ 134");
+        due("an open slur", x.read(), -15);
+        fill(x, "134 14 _ 2356");
+        due("none is open now", x.read(), 2);
+        dueText("SLURRED", all(x, 9), "1");
+        fill(x, "456 345 5 13456 _ 2");
+        due("a hand and a note", x.read(), -15);
+        due("HAND", x.told(4), 0);
+        fill(x, "13456");
+        due("the first note wants its sign", x.read(), -10);
+        fill(x, "45 126 2 134 2");
+        due("a size", x.read(), -14);
+        fill(x, "134");
+        due("none is told now", x.read(), 1);
+        due("a bar rest", x.item(0, 5), 2);
+        fill(x, "134 126 345 134 126 345 134 126 345");
+        due("three voices", x.read(), -19);
+        fill(x, "134 126 345 134");
+        due("two", x.read(), 1);
+        due("voices", x.barOf(0, 0), 2);
+    }
+
+    static void p07_read_sixtyBarsOfThreeVoices() {
+        String bar = "134 126 345 134 126 345 134";
+        Counted x = reading(times(59, bar + " _") + bar);
+        due("bars", x.told(0), 60);
+        due("items", x.told(1), 180);
+        due("voices of the last", x.barOf(59, 0), 3);
+        due("first item of the last", x.barOf(59, 1), 177);
+        due("a fourth", x.voice(), FULL);
+        due("a 61st", x.bar(false), FULL);
+        due("a rest more", x.rest(3, 1, 0), STATE);
     }
 
     static void p07_read_theMusicIsThatOfTheRowAlone() {

@@ -52,6 +52,15 @@ public final class RowEdgeTests extends Bench {
         return x;
     }
 
+    // ---- the face
+
+    static void t4_answers_belowZero() {
+        due("NONE", BrailleCells.NONE, -1);
+        due("RANGE", BrailleCells.RANGE, -2);
+        due("STATE", BrailleCells.STATE, -3);
+        due("FULL", BrailleCells.FULL, -4);
+    }
+
     // ---- 1 a new object
 
     static void p01_new_hasNoCells() {

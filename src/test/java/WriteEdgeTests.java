@@ -242,6 +242,55 @@ public final class WriteEdgeTests extends Bench {
         dueWritten(reading(row), 60, row);
     }
 
+    private static final String[] STEPS = {"145", "15", "124", "1245", "125", "24", "245"};
+    private static final String[] KINDS = {"36", "3", "6", ""};
+
+    private static String noteCell(int step, int kind) {
+        StringBuilder dots = new StringBuilder();
+        for (char dot : "123456".toCharArray()) {
+            dots.append((STEPS[step] + KINDS[kind]).indexOf(dot) >= 0 ? dot : "");
+        }
+        return dots.toString();
+    }
+
+    static void t4_item_eachNoteCellAndOctaveSign() {
+        String[] octaves = {"4", "45", "456", "5", "46", "56", "6"};
+        int[] downs = {1, 2, 4, 8};
+        for (int pitch = 7; pitch <= 55; pitch++) {
+            for (int kind = 0; kind < 4; kind++) {
+                Counted x = inMeter(1, downs[kind]);
+                x.bar(false);
+                x.note(pitch, 0, kind, 0, 0);
+                dueWritten(x, 12, octaves[pitch / 7 - 1] + " " + noteCell(pitch % 7, kind));
+            }
+        }
+    }
+
+    static void t4_item_eachRestCell() {
+        Counted x = reading(15, 8, "134 136 1236 1346");
+        dueWritten(x, 12, "134 136 1236 1346");
+        dueWritten(reading(1, 4, "1236"), 12, "1236");
+    }
+
+    static void t4_item_eachSignAndInterval() {
+        String[] signs = {"", "146 ", "126 ", "16 "};
+        String[] intervals = {"34", "346", "3456", "35", "356", "25", "36"};
+        for (int sign = 0; sign <= 3; sign++) {
+            for (int n = 2; n <= 8; n++) {
+                Counted x = emptyVoice();
+                x.note(28, sign, 0, 0, 0);
+                x.interval(n, sign);
+                x.interval(n, 0);
+                dueWritten(x, 12, signs[sign] + "5 13456 " + signs[sign] + intervals[n - 2] + " " + intervals[n - 2]);
+            }
+        }
+    }
+
+    static void t4_item_dots() {
+        dueWritten(reading(3, 4, "5 1345 3"), 12, "5 1345 3");
+        dueWritten(reading(7, 8, "136 3 3"), 12, "136 3 3");
+    }
+
     // ---- 17 write: its width and what there must be
 
     static void p17_write_widthFrom12() {
@@ -302,6 +351,33 @@ public final class WriteEdgeTests extends Bench {
         dueText("the row", rowOf(x), "134 _ 2356 _ 2356");
         due("none behind it", x.at(5), NONE);
         due("read", x.read(), 3);
+    }
+
+    static void p17_write_sixtyBarsOfThreeVoices() {
+        String bar = "134 126 345 134 126 345 134";
+        Counted x = reading(times(59, bar + " _") + bar);
+        due("write", x.write(200), 60 * 7 + 59);
+        due("in one line each", x.write(12), 60 * 7 + 59);
+        due("a line's end", x.at(7), 64);
+        due("read", x.read(), 60);
+    }
+
+    /** A refused one leaves the row that the one before it wrote. */
+    static void p17_write_refusedBehindOneThatWasNot() {
+        Supplier<Counted> made = () -> {
+            Counted x = reading("134 _ 5 1345 " + times(16, "1345"));
+            x.write(20);
+            x.write(18);
+            return x;
+        };
+        dueText("the row", rowOf(made.get()), "134 / 5 1345 " + times(16, "1345").trim());
+        dueRefused("too long", made, x -> x.write(17), -11);
+        dueRefused("a wrong width", made, x -> x.write(11), RANGE);
+        dueRefused("not whole", () -> {
+            Counted x = made.get();
+            x.bar(false);
+            return x;
+        }, x -> x.write(20), STATE);
     }
 
     static void p17_write_leavesTheMusic() {
@@ -439,6 +515,14 @@ public final class WriteEdgeTests extends Bench {
         }, x -> x.write(100), FULL);
         due("more than 4001 cells", sixtyLongBars(300).write(100), FULL);
         due("fewer lines, fewer cells", sixtyLongBars(300).write(150), 3600 + 300 + 30 + 59);
+    }
+
+    static void p17_full_behindOneThatWasNot() {
+        Counted x = sixtyLongBars(282);
+        due("two bars a line", x.write(150), 3600 + 282 + 30 + 59);
+        due("FULL", x.write(100), FULL);
+        due("cells", x.told(3), 3600 + 282 + 30 + 59);
+        due("read", x.read(), 60);
     }
 
     static void p17_full_aBarThatIsTooLongComesBefore() {
