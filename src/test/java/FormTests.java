@@ -178,6 +178,40 @@ public final class FormTests {
         }
     }
 
+    // ---- the classes, rules 1, 2, 3, 5 and 11
+
+    private static void classes() {
+        List<Class<?>> all = new ArrayList<>(Arrays.asList(BrailleCells.class.getDeclaredClasses()));
+        all.add(BrailleCells.class);
+        if (all.size() > 12) {
+            fault(all.size() + " classes");
+        }
+        for (Class<?> c : all) {
+            if (c != BrailleCells.class && (c.getModifiers() & (Modifier.PUBLIC | Modifier.PROTECTED)) != 0) {
+                fault(c + " can be seen from outside");
+            }
+            fields(c);
+        }
+    }
+
+    private static void fields(Class<?> c) {
+        int own = 0;
+        for (Field f : c.getDeclaredFields()) {
+            if (!Modifier.isStatic(f.getModifiers())) {
+                own++;
+            } else if (!f.isSynthetic() && !Modifier.isFinal(f.getModifiers())) {
+                fault(f + " is static and not final");
+            }
+            Class<?> type = f.getType().isArray() ? f.getType().getComponentType() : f.getType();
+            if (!type.isPrimitive() && type != String.class && !type.getName().startsWith("BrailleCells")) {
+                fault(f + " is of a type that is not told");
+            }
+        }
+        if (own > 20) {
+            fault(c + " has " + own + " fields");
+        }
+    }
+
     // ---- the text
 
     private static void text() throws Exception {
@@ -214,6 +248,7 @@ public final class FormTests {
             fault("a new object takes " + room + " fields and elements");
         }
         face();
+        classes();
         text();
         anyCalls();
         System.out.println(wrong == 0 ? "all is as due, with " + room + " fields and elements an object"
