@@ -1,6 +1,6 @@
 import java.util.function.Supplier;
 
-/** The edges of term 1 and of promises 1 to 6: a new object, clear, and the row. */
+/** The edges of term 1 and of promises 1 to 6: a new object, clear, and the row; and an object's 512th call. */
 public final class RowEdgeTests extends Bench {
 
     // ---- 1 CELLS
@@ -59,6 +59,50 @@ public final class RowEdgeTests extends Bench {
         due("RANGE", BrailleCells.RANGE, -2);
         due("STATE", BrailleCells.STATE, -3);
         due("FULL", BrailleCells.FULL, -4);
+    }
+
+    // ---- up to an object's 512th call
+
+    static void p03_cell_asThe512thCall() {
+        BrailleCells x = new BrailleCells();
+        for (int n = 1; n <= 512; n++) {
+            due("cell", x.cell(n % 65), n);
+        }
+    }
+
+    static void p07_read_asThe512thCall() {
+        BrailleCells x = new BrailleCells();
+        x.cell(13);
+        for (int n = 2; n <= 512; n++) {
+            due("read", x.read(), 1);
+        }
+    }
+
+    /** 120 voices of one note and its interval and tie, and at last a note more. */
+    static void p12_note_asThe512thCall() {
+        BrailleCells x = new BrailleCells();
+        int calls = 0;
+        for (int item = 0; item < 120; item++) {
+            due("bar or voice", item % 2 == 0 ? x.bar(false) : x.voice(), item % 2 == 0 ? item / 2 : 1);
+            due("note", x.note(28, 0, 0, 0, 0), item);
+            due("interval", x.interval(3, 0), 1);
+            due("tie", x.tie(true), 0);
+            calls += 4;
+        }
+        for (; calls < 510; calls++) {
+            due("slur", x.slur(calls - 480, true), 0);
+        }
+        due("voice", x.voice(), 2);
+        due("the 512th", x.note(28, 0, 0, 0, 0), 120);
+    }
+
+    static void p17_write_asThe512thCall() {
+        BrailleCells x = new BrailleCells();
+        x.bar(false);
+        x.rest(0, 2, 0);
+        for (int n = 3; n <= 512; n++) {
+            due("write", x.write(12 + n % 100), 1);
+        }
     }
 
     // ---- 1 a new object
